@@ -887,14 +887,16 @@ public final class BallotWays {
         }
 
         private void goThrough(int i, int middle) {
-            long before = best[cell(i, middle)];
+            int row = cell(i, 0);
+            int middleRow = cell(middle, 0);
+            long before = best[row + middle];
             if (before == 0) {
                 return;
             }
             for (int j = 0; j < size; j++) {
-                long whole = Math.min(before, best[cell(middle, j)]);
-                if (j != i && whole > best[cell(i, j)]) {
-                    best[cell(i, j)] = whole;
+                long whole = Math.min(before, best[middleRow + j]);
+                if (j != i && whole > best[row + j]) {
+                    best[row + j] = whole;
                 }
             }
         }

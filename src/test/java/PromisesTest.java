@@ -894,6 +894,18 @@ public final class PromisesTest {
         BallotWays by = laid(3, 0, 4, 3, 56);
         by.out(4, 1);
         due("a WAY by one OUT", by.proves(0, 1, 0, 3), 0);
+        BallotWays eight = fresh(8, "1:0>1>2>3>4>5>6>7");
+        eight.list(3, 10);
+        eight.set(3, 0, 8);
+        for (int k = 0; k < 8; k++) {
+            eight.set(3, 1 + k, k);
+        }
+        eight.set(3, 9, 128);
+        due("m 8, to the end of the LIST", eight.proves(3, 0, 0, 7), 1);
+        eight.set(3, 9, 255);
+        due("m 8, all are in the set", eight.proves(3, 0, 0, 7), 0);
+        eight.set(3, 9, 254);
+        due("m 8, all but i are in the set", eight.proves(3, 0, 0, 7), 1);
     }
 
     private static void told() {
