@@ -183,8 +183,14 @@ final class EdgesOfAnswers {
         run("set(0,0,4294967298)=1 proves(0,0,0,1)=0 set(0,0,-4294967294)=1 proves(0,0,0,1)=0 set(0,0,2)=1 set(0,1,4294967296)=1");
         run("proves(0,0,0,1)=0 set(0,1,0)=1 set(0,2,4294967297)=1 proves(0,0,0,1)=0 set(0,2,-4294967295)=1 proves(0,0,0,1)=0");
         run("set(0,2,1)=1 proves(0,0,0,1)=1 out(2,1)=0 proves(0,0,0,1)=1 set(0,3,2)=1 proves(0,0,0,1)=1 set(0,3,LONGLEAST)=1 proves(0,0,0,1)=0");
+        // A step in the middle, too, is none.
+        runner.linked(4, "0>1 6, 1>2 6, 2>0 4, 0>3 6");
+        run("list(0,5)=1 prove(0,0,0,2)=5 proves(0,0,0,2)=1 set(0,2,4294967297)=1 proves(0,0,0,2)=0 set(0,2,-4294967295)=1 proves(0,0,0,2)=0");
+        run("set(0,2,4)=1 proves(0,0,0,2)=0 set(0,2,-1)=1 proves(0,0,0,2)=0 set(0,2,LONGMOST)=1 proves(0,0,0,2)=0 set(0,2,1)=1 proves(0,0,0,2)=1");
+        runner.linked(4, "0>1 6, 1>2 6, 2>0 4, 0>3 6");
+        run("list(0,4)=1 set(0,0,2)=1 set(0,2,1)=1 out(2,1)=0 set(0,3,2)=1");
         // The LINK out to 2 counts only while 2 is IN; so does that of 3 to 0 only while 3 is.
-        run("set(0,3,2)=1 proves(0,0,0,1)=1 out(2,0)=1 proves(0,0,0,1)=0");
+        run("proves(0,0,0,1)=1 out(2,0)=1 proves(0,0,0,1)=0");
         runner.linked(4, "0>1 4, 3>0 6");
         run("list(0,4)=1 prove(0,0,0,1)=4 proves(0,0,0,1)=1 set(0,3,10)=1 proves(0,0,0,1)=0 out(3,1)=0 proves(0,0,0,1)=1");
     }

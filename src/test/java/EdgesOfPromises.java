@@ -68,7 +68,7 @@ final class EdgesOfPromises {
                 + "NONE: candidate, is; STATE: none would be IN then.");
         run("new out(0,0)=0 out(0,1)=0 out(0,1)=1 told(3)=1 out(0,0)=1 out(0,0)=0 told(3)=0 out(0,2)=-1 out(0,-1)=-1 out(0,MOST)=-1");
         run("out(3,1)=-1 out(-1,1)=-1 out(1,1)=0 out(2,1)=0 out(0,1)=-3 told(3)=6 out(1,1)=1 out(2,0)=1 out(0,1)=0 out(2,1)=-3 told(3)=3");
-        run("begin(8)=3 out(0,1)=0 out(1,1)=0 out(2,1)=0 out(3,1)=0 out(4,1)=0 out(5,1)=0 out(6,1)=0 out(7,1)=-3 told(3)=127 ranked(0)=7");
+        run("begin(8)=3 out(0,1)=0 out(1,1)=0 out(2,1)=0 out(3,1)=0 out(4,1)=0 out(5,1)=0 out(6,1)=0 out(7,1)=-3 out(7,0)=0 told(3)=127 ranked(0)=7");
         run("ranked(1)=-1 winners()=128 smith()=128 clones(-1)=0 sum(7,0)=0 agree()=15 told(7)=0 told(8)=0");
     }
 

@@ -278,6 +278,22 @@ final class EdgesOfTerms {
         run("new begin(4)=3 measure(2)=0 '999999:0=2>1=3;999998:1=3>0=2;1:2>0=1>3;1:0>3>2>1' ballots()=4");
         run("pair(2,3)=1000000 pair(3,2)=999999 pair(0,1)=1000000 pair(1,0)=999998 strength(2,3,0)=1000000 strength(2,3,1)=999999");
         run("strength(0,1,0)=500000 strength(0,1,1)=499999");
+        closeFractions("1:0=1>2;1:2>0=1", 251, 249);
+        closeFractions("1:0=2>1;1:1>0=2", 249, 253);
+    }
+
+    /** 0 to 1 and 0 to 2 by 10000000 to 9999999 each, but one of them by 1 more both ways: it is weaker. To all others it is stronger. */
+    private void closeFractions(String more, int barrierTo2, int barrierTo1) {
+        run("new begin(8)=3 measure(2)=0 '" + more + "' ballots()=2");
+        for (int c = 3; c < 8; c++) {
+            String less = c == 3 ? "999999" : "1000000";
+            run("'1000000:0>" + c + ";1000000:0=" + c + ";" + less + ":1=2>" + c + ";1000000:1=2=" + c + "' ballots()=4");
+        }
+        boolean second = barrierTo2 == 251;
+        run("pair(0,1)=" + (second ? 10000000 : 10000001) + " pair(1,0)=" + (second ? 9999999 : 10000000));
+        run("pair(0,2)=" + (second ? 10000001 : 10000000) + " pair(2,0)=" + (second ? 10000000 : 9999999));
+        run("link(1,2)=0 link(2,1)=0 barrier(0,1)=" + barrierTo1 + " barrier(0,2)=" + barrierTo2);
+        run("strength(0,1,0)=" + (second ? 10000000 : 10000001) + " strength(0,1,1)=" + (second ? 9999999 : 10000000));
     }
 
     private void ways() {
@@ -289,6 +305,9 @@ final class EdgesOfTerms {
         runner.linked(8, "0>1 2, 1>2 2, 2>3 2, 3>4 2, 4>5 2, 5>6 2, 6>7 2");
         run("told(7)=7 told(8)=28 way(0,7,-1)=8 way(0,7,0)=0 way(0,7,1)=1 way(0,7,6)=6 way(0,7,7)=7 way(0,7,8)=-1 way(0,7,MOST)=-1");
         run("way(0,7,-2)=-1 way(7,0,-1)=-5 strength(0,7,0)=2 strength(7,0,0)=NO out(3,1)=0 way(0,7,-1)=-5 way(0,2,-1)=3 way(4,7,-1)=4");
+        // LINKS of the least STRENGTH that there is make WAYS, too.
+        run("new '1:0>1>2;1:1>2>0;1:2>0>1' ballots()=3 measure(1)=0 strength(0,1,0)=1 strength(0,2,0)=1 way(0,2,-1)=3 way(0,2,1)=1");
+        run("way(1,0,-1)=3 way(2,1,-1)=3 told(7)=3 told(8)=0 winners()=7 measure(0)=1 strength(0,2,0)=2 measure(3)=0 strength(0,2,0)=1");
         says("P of i to j: the STRENGTH of the strongest WAY (none: there is no WAY).");
         runner.linked(4, "0>1 6, 1>3 2, 0>2 4, 2>3 4");
         run("strength(0,3,0)=4 strength(3,0,0)=NO strength(3,0,1)=NO strength(1,2,0)=NO strength(1,3,0)=2 out(2,1)=0 strength(0,3,0)=2");
@@ -379,6 +398,11 @@ final class EdgesOfTerms {
         run("set(0,0,0)=1 proves(0,0,0,1)=0 set(0,0,-2)=1 proves(0,0,0,1)=0 set(0,0,LONGLEAST)=1 proves(0,0,0,1)=0");
         run("set(0,0,2)=1 set(0,1,1)=1 proves(0,0,0,1)=0 set(0,1,0)=1 set(0,2,2)=1 proves(0,0,0,1)=0 proves(0,0,0,2)=0");
         run("set(0,2,3)=1 set(0,3,8)=1 proves(0,0,0,3)=1 set(0,3,10)=1 proves(0,0,0,3)=0 set(0,3,14)=1 proves(0,0,0,3)=1");
+        // A WAY from another one than i proves nothing for i.
+        runner.linked(4, "0>1 6, 2>1 6");
+        run("list(0,4)=1 set(0,0,2)=1 set(0,1,2)=1 set(0,2,1)=1 set(0,3,2)=1 proves(0,0,2,1)=1 proves(0,0,0,1)=0 set(0,1,0)=1");
+        run("proves(0,0,0,1)=1 proves(0,0,2,1)=0 proves(0,0,3,1)=0 proves(0,0,0,3)=0");
+        runner.linked(4, "0>1 6, 1>2 6, 2>0 4, 0>3 6");
         // A longer WAY; one by a CANDIDATE twice is none, nor is one over itself.
         run("list(1,12)=1 set(1,0,3)=1 set(1,1,0)=1 set(1,2,1)=1 set(1,3,2)=1 set(1,4,4)=1 proves(1,0,0,2)=1 set(1,4,6)=1");
         run("proves(1,0,0,2)=1 set(1,0,5)=1 set(1,1,0)=1 set(1,2,1)=1 set(1,3,2)=1 set(1,4,0)=1 set(1,5,3)=1 set(1,6,8)=1");
@@ -387,6 +411,10 @@ final class EdgesOfTerms {
         runner.linked(4, "0>1 6, 1>2 4, 2>0 2, 1>3 4");
         run("list(0,5)=1 set(0,0,2)=1 set(0,1,0)=1 set(0,2,1)=1 set(0,3,2)=1 proves(0,0,0,1)=1 prove(0,0,0,2)=5 get(0,4)=4");
         run("proves(0,0,0,2)=1 set(0,4,12)=1 proves(0,0,0,2)=1 set(0,4,6)=1 proves(0,0,0,2)=0 set(0,4,14)=1 proves(0,0,0,2)=1");
+        // 0 may be in the set, too: its LINK to 3 is as strong as the WAY.
+        runner.linked(4, "1>2 6, 2>0 6, 0>1 4, 0>3 6");
+        run("list(0,4)=1 prove(0,0,2,0)=4 get(0,3)=9 proves(0,0,2,0)=1 set(0,3,3)=1 proves(0,0,2,0)=0 set(0,3,9)=1 proves(0,0,2,0)=1");
+        run("set(0,3,1)=1 proves(0,0,2,0)=0 told(8)=6 beats(2,0)=1 beats(1,0)=1 beats(1,2)=1");
         // 9 is no m, though all that follows were right.
         runner.linked(8, "0>1 2, 1>2 2, 2>3 2, 3>4 2, 4>5 2, 5>6 2, 6>7 2");
         run("list(3,11)=1 prove(3,0,0,7)=10 set(3,0,9)=1 set(3,9,7)=1 set(3,10,128)=1 proves(3,0,0,7)=0 set(3,0,8)=1");
@@ -439,7 +467,10 @@ final class EdgesOfTerms {
     private void sums() {
         says("SUM of a CANDIDATE that is IN: on each BALLOT COUNT times how many that are IN are in a greater PLACE, added up.");
         run("new sum(0,0)=0 '2:0>1>2;3:1=2>0' ballots()=2 sum(0,0)=4 sum(1,0)=5 sum(2,0)=3 out(0,1)=0 sum(1,0)=2 sum(2,0)=0 sum(0,0)=NO");
-        run("out(1,1)=0 sum(2,0)=0 new begin(8)=3 '1000000:0;1000000:0>1;1000000:0>2;1000000:0>3' ballots()=4 sum(0,0)=28000000");
+        // Those of BALLOTS that are gone aren't added.
+        run("out(1,1)=0 sum(2,0)=0 begin(3)=3 sum(0,0)=0 sum(0,1)=0 '2:0;3:0>1;4:1' ballots()=3 remove(0,2)=0 sum(0,0)=6 sum(0,1)=3");
+        run("sum(1,0)=11 sum(1,1)=4 remove(1,4)=0 sum(0,0)=6 sum(1,0)=3 sum(1,1)=0 undo()=-3 image()=1 remove(0,3)=0 sum(0,0)=0 undo()=1 sum(0,0)=6");
+        run("new begin(8)=3 '1000000:0;1000000:0>1;1000000:0>2;1000000:0>3' ballots()=4 sum(0,0)=28000000");
         says("LEADS: COUNTS of BALLOTS on which it is ahead of all others that are IN.");
         run("new sum(0,1)=0 '2:0>1>2;3:1=2>0;4:1>0' ballots()=3 sum(0,1)=2 sum(1,1)=4 sum(2,1)=0 out(1,1)=0 sum(0,1)=6 sum(2,1)=3");
         says("LEADS: alone in its PLACE; with one IN alone all COUNTS.");
