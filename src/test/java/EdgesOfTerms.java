@@ -278,6 +278,11 @@ final class EdgesOfTerms {
         run("new begin(4)=3 measure(2)=0 '999999:0=2>1=3;999998:1=3>0=2;1:2>0=1>3;1:0>3>2>1' ballots()=4");
         run("pair(2,3)=1000000 pair(3,2)=999999 pair(0,1)=1000000 pair(1,0)=999998 strength(2,3,0)=1000000 strength(2,3,1)=999999");
         run("strength(0,1,0)=500000 strength(0,1,1)=499999");
+        // 930446 by 310162 is less than 930461 by 310167, by two parts of a thousand millions.
+        run("new measure(2)=0 '930431:0>1=2;310143:1=2>0;30:0=1>2;15:0=2>1;19:1>0=2;24:2>0=1' ballots()=6 pair(0,1)=930446");
+        run("pair(1,0)=310162 pair(0,2)=930461 pair(2,0)=310167 barrier(0,1)=5 barrier(0,2)=1");
+        run("new measure(2)=0 '930431:0>1=2;310143:1=2>0;15:0=1>2;30:0=2>1;24:1>0=2;19:2>0=1' ballots()=6 pair(0,2)=930446");
+        run("pair(2,0)=310162 pair(0,1)=930461 pair(1,0)=310167 barrier(0,2)=3 barrier(0,1)=1");
         closeFractions("1:0=1>2;1:2>0=1", 251, 249);
         closeFractions("1:0=2>1;1:1>0=2", 249, 253);
     }
